@@ -26,6 +26,7 @@ public final class OutlookTests {
         promise29BestSide();
         promise30MeanLength();
         promise31Digest();
+        behindABoardChange();
         nothingIsChanged();
         Check.end();
     }
@@ -352,6 +353,10 @@ public final class OutlookTests {
         x.link(2, 3);
         Check.due("too far behind the first link", x.ifLinked(4, 5, 2), 0);
         Check.due("saved states", x.count(9), 6);
+        LadderMakers nine = Makers.withBoard("20:1>0,2>0,3>0,4>0,5>0,6>0,7>0,8>0,9>0");
+        Check.due("a tenth link", nine.ifLinked(10, 20, 2), 1);
+        nine.link(10, 20);
+        Check.due("an eleventh link", nine.ifLinked(11, 20, 2), 0);
     }
 
     private static void promise27IfLinkedWrong() {
@@ -579,6 +584,44 @@ public final class OutlookTests {
                 Check.due("digest with " + text, y.digest(), digestOf(y, ""));
             }
         }
+    }
+
+    /** What was found about a greater board must not show in what is told of a smaller one. */
+    private static void behindABoardChange() {
+        LadderMakers x = new LadderMakers();
+        for (String board : new String[] {"8", "40:3>30,8>2", "11", "9:8>1", "8:7>2", "20"}) {
+            tellAll(x);
+            Makers.retype(x, board);
+            x.load();
+            LadderMakers fresh = Makers.withBoard(board);
+            chance(x, x.count(0), 0, 1, 1);
+            chance(x, 0, 0, 0, 1);
+            mean(x, x.count(0), 0, 1);
+            Check.due("what is told of " + board, tellAll(x), tellAll(fresh));
+        }
+        tellAll(x);
+        Makers.retype(x, "8");
+        x.load();
+        x.undo();
+        chance(x, 8, 0, 0, 1);
+        Check.due("what is told behind undo", tellAll(x), tellAll(new LadderMakers()));
+    }
+
+    private static long tellAll(LadderMakers x) {
+        long hash = 0;
+        for (int square = 0; square <= x.count(0); square++) {
+            hash = 31 * hash + x.mean(square, 0) + 7 * x.mean(square, 1) + x.shortest(square, 1);
+            for (int turns = 8; turns >= 0; turns--) {
+                hash = 31 * hash + x.chance(square, turns, 0) + 7 * x.chance(square, turns, 1);
+            }
+            if (x.square(square, 3) == 1) {
+                hash = 31 * hash + x.ifLinked(square, 0, 0) + 7 * x.ifLinked(square, x.count(0), 0);
+            }
+        }
+        for (int thousandths = 0; thousandths <= 8000; thousandths += 500) {
+            hash = 31 * hash + x.bestLink(thousandths, 0) + 41 * x.bestLink(thousandths, 1);
+        }
+        return hash;
     }
 
     private static void nothingIsChanged() {
