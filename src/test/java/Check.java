@@ -10,8 +10,14 @@ final class Check {
 
     private static int checks = 0;
     private static int wrong = 0;
+    private static String about = "";
 
     private Check() {
+    }
+
+    /** What the checks behind this call are for, as their failures tell it. */
+    static void about(String text) {
+        about = text;
     }
 
     static void due(String what, long got, long want) {
@@ -25,6 +31,28 @@ final class Check {
         checks++;
         if (!holds) {
             fail(what + " does not hold");
+        }
+    }
+
+    /** Like due(), but an exception is a wrong answer too. */
+    static void answers(String what, long want, Call call) {
+        checks++;
+        try {
+            long got = call.run();
+            if (got != want) {
+                fail(what + " answered " + got + ", due is " + want);
+            }
+        } catch (RuntimeException thrown) {
+            fail(what + " threw " + thrown + ", due is " + want);
+        }
+    }
+
+    static void isTaken(String what, Call call) {
+        checks++;
+        try {
+            call.run();
+        } catch (RuntimeException thrown) {
+            fail(what + " threw " + thrown + ", due is an answer");
         }
     }
 
@@ -51,7 +79,7 @@ final class Check {
     static void fail(String text) {
         wrong++;
         if (wrong <= 50) {
-            System.out.println(text);
+            System.out.println(about + text);
         }
     }
 

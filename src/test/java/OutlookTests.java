@@ -447,7 +447,8 @@ public final class OutlookTests {
         }
     }
 
-    private static int[] bestOfAll(LadderMakers x, int thousandths) {
+    /** The best link by what ifLinked() tells of each link that is allowed. */
+    static int[] bestOfAll(LadderMakers x, int thousandths) {
         int[] best = {NONE, NONE};
         long apart = 0;
         long of = 1;
